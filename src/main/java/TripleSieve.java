@@ -202,13 +202,7 @@ public final class TripleSieve {
 
     public int core(int i) {
         peelNow();
-        if (i == NONE) {
-            return row.left;
-        }
-        if (i < 0 || i >= row.left) {
-            return LACK;
-        }
-        return row.leftAt(i);
+        return i == NONE ? row.left : row.leftAt(i);
     }
 
     public int level(int k) {
@@ -341,9 +335,6 @@ public final class TripleSieve {
     public int strangers(long from, int span, int k) {
         if (!sieve.stands || span < 1 || span > MOST_SPAN) {
             return NONE;
-        }
-        if (k < NONE) {
-            return LACK;
         }
         sieve.aim(marks);
         int met = 0;
@@ -966,7 +957,7 @@ public final class TripleSieve {
             return count;
         }
 
-        /** The i-th KEY that is left, by numbers. */
+        /** The i-th KEY that is left, by numbers; LACK if there are not so many. */
         private int leftAt(int i) {
             int met = 0;
             for (int k = 0; k < keys; k++) {
