@@ -98,6 +98,24 @@ public final class BoundsOfPeelingTest {
         dueOrder(x, 0, 9, 1, 7, 2, 5, 4, 3, 3, 20);
     }
 
+    @Sentence(promise = 16, says = "Where nothing else is said, KEYS are peeled by SEED, SETTINGS as they are now.")
+    private static void peelAsTheyAreNow() {
+        for (int way : WAYS) {
+            TripleSieve x = Crafted.row(16, Crafted.single(16, 47));
+            x.set(5, way);
+            dueOrder(x, 0, 47);
+            x.add(Crafted.single(16, 1), 0);
+            dueOrder(x, way == 1 ? new long[] {0, 47, 1, 1} : new long[] {1, 1, 0, 47});
+            x.add(Crafted.single(16, 47, 1), 0);
+            dueOrder(x, 1, 1);
+            x.gone(Crafted.single(16, 47));
+            dueOrder(x, way == 1 ? new long[] {1, 47, 0, 1} : new long[] {0, 1, 1, 47});
+            x.gone(Crafted.single(16, 1));
+            x.gone(Crafted.single(16, 47, 1));
+            dueOrder(x);
+        }
+    }
+
     // ---- promise 17
 
     @Sentence(promise = 17, says = "The i-th KEY of the CORE, by numbers; how many (i NONE)")
@@ -178,6 +196,10 @@ public final class BoundsOfPeelingTest {
     private static void levelStuck() {
         TripleSieve x = Crafted.row(16, Crafted.single(16, 0), Crafted.single(16, 3), Crafted.single(16, 3, 1));
         Sentences.dueRow("level", levels(x), 1, -2, -2);
+        x.add(Crafted.single(16, 0, 1), 0);
+        Sentences.dueRow("level, one more is STUCK", levels(x), -2, -2, -2, -2);
+        x.gone(Crafted.single(16, 3));
+        Sentences.dueRow("level, one is STUCK no more", levels(x), -2, 1, -2);
         x = twins(48);
         Sentences.due("level(0)", x.level(0), -2);
         Sentences.due("level(47)", x.level(47), -2);
@@ -205,7 +227,16 @@ public final class BoundsOfPeelingTest {
         Sentences.due("rank() of two twins", twins(2).rank(), 1);
         Sentences.due("rank() of 48 twins", twins(48).rank(), 1);
         Sentences.due("rank() of a chain", chain(48).rank(), 48);
-        TripleSieve x = Crafted.row(1);
+        TripleSieve x = apartSingles(3);
+        Sentences.due("rank() of three", x.rank(), 3);
+        x.gone(Crafted.single(16, 1));
+        Sentences.due("rank() behind gone", x.rank(), 2);
+        x.undo();
+        Sentences.due("rank() behind undo", x.rank(), 3);
+        x.set(6, 0);
+        x.set(1, 1);
+        Sentences.due("rank() in one BLOCK", x.rank(), 1);
+        x = Crafted.row(1);
         for (int n = 0; n < 16; n++) {
             x.add(Crafted.single(1, 0, n), 0);
             x.add(Crafted.single(1, 1, n), 0);
@@ -315,6 +346,40 @@ public final class BoundsOfPeelingTest {
         Bytes.put("key 1;", x);
         x.text();
         Sentences.due("mend(-1) behind text", x.mend(-1), 0);
+    }
+
+    @Sentence(promise = 20, says = "The fewest KEYS, 3 at most, without which none is STUCK")
+    private static void mendOfManyFours() {
+        // fewer KEYS than cells: it is not their number that keeps them STUCK
+        for (int fours = 1; fours <= 12; fours++) {
+            TripleSieve x = Crafted.row(32);
+            for (int i = 0; i < fours; i++) {
+                addFour(x, 6 * i);
+            }
+            Sentences.due("core(-1)", x.core(-1), 4 * fours);
+            if (fours <= 3) {
+                Sentences.dueRow("mend of " + fours, mends(x), fours, 0, fours > 1 ? 4 : -2, fours > 2 ? 8 : -2, -2, -2);
+            } else {
+                Sentences.dueRow("mend of " + fours, mends(x), -2, -2, -2, -2, -2, -2);
+            }
+        }
+    }
+
+    @Sentence(promise = 20, says = "The fewest KEYS, 3 at most")
+    private static void mendTimeAndAgain() {
+        TripleSieve x = Crafted.row(32);
+        addFour(x, 0);
+        addFour(x, 6);
+        addFour(x, 90);
+        for (int i = 0; i < 50; i++) {
+            x.set(5, i % 3);
+            Sentences.due("mend(-1)", x.mend(-1), 3);
+            Sentences.due("mend(2)", x.mend(2), 8);
+        }
+        for (int k = 12; k < 48; k++) {
+            x.add(Crafted.single(32, k), 0);
+        }
+        Sentences.dueRow("mend with 36 more", mends(x), 3, 0, 4, 8, -2, -2);
     }
 
     // ---- promise 21
@@ -490,6 +555,14 @@ public final class BoundsOfPeelingTest {
             x.add(Crafted.single(16, c, 1), 0);
         }
         return x;
+    }
+
+    /** Four KEYS in six cells, two in each: all are STUCK, and none is if one of them goes. */
+    private static void addFour(TripleSieve x, int c) {
+        x.add(Crafted.free(32, c, c + 1, c + 2), 0);
+        x.add(Crafted.free(32, c + 2, c + 3, c + 4), 0);
+        x.add(Crafted.free(32, c, c + 3, c + 5), 0);
+        x.add(Crafted.free(32, c + 1, c + 4, c + 5), 0);
     }
 
     /** KEY k in the cells k, k + 1 and 95, the last one in its own cell alone: each goes when the one ahead went. */

@@ -274,6 +274,30 @@ public final class BoundsOfSieveTest {
         Sentences.due("passes, 16 bits", x.passes(Crafted.printed(16, 1, 2, 3, 0)), true);
     }
 
+    @Sentence(promise = 27, says = "By its own SEED, CELLS, PRINTS, BITS, SPREAD")
+    private static void askedBetweenOtherCalls() {
+        // each SETTING but BITS by itself is told otherwise, and a call made by it just ahead
+        int[] others = {0, 15, 1, 0, 1, 0, 1};
+        long stranger = Crafted.printed(16, 5, 1, 2, 0xABC);
+        for (int what : new int[] {1, 2, 4, 6}) {
+            TripleSieve x = one(0xABC, 9);
+            long number = x.key(0);
+            x.set(what, others[what]);
+            x.print(7);
+            Sentences.due("passes", x.passes(number), true);
+            x.cell(7, 0);
+            Sentences.due("passes of a stranger", x.passes(stranger), true);
+            x.load(7);
+            Sentences.due("told", x.told(number), 9);
+            x.rank();
+            Sentences.due("right()", x.right(), 1);
+            x.core(-1);
+            Sentences.due("strangers", x.strangers(stranger, 1, -1), 1);
+            x.count(9);
+            Sentences.due("strangers", x.strangers(stranger, 1, 0), 0);
+        }
+    }
+
     // ---- promise 28
 
     @Sentence(promise = 28, says = "What a number is ANSWERED; NONE without a SIEVE.")

@@ -290,6 +290,9 @@ public final class BoundsOfTextTest {
             boolean digit = b >= '0' && b <= '9';
             dueText("key 7;" + sign, blank ? 1 : Sentences.fault(6, 1));
             dueText(sign + "key 7;", blank ? 1 : Sentences.fault(0, 1));
+            boolean letter = b >= 'a' && b <= 'z';
+            // behind the WORD it may be one letter more of it, or a digit of the NUMBER
+            dueText("key" + sign + "7;", blank || digit ? 1 : Sentences.fault(letter ? 0 : 3, 1));
             // behind the NUMBER it may be one digit more of it
             dueText("key 7" + sign + ";", blank || digit ? 1 : Sentences.fault(b == ';' ? 6 : 5, 1));
         }
@@ -307,6 +310,37 @@ public final class BoundsOfTextTest {
         dueText("way q;", Sentences.fault(4, 1));
         dueText("KEY 1;", Sentences.fault(0, 1));
         dueText("kEY 1;", Sentences.fault(0, 1));
+    }
+
+    @Sentence(promise = 4, says = "TOKEN with which no TEXT goes on")
+    private static void wordsWithOneLetterOther() {
+        String[] parts = {"cells 2;", "prints 3;", "bits 5;", "seed 7;", "way least;", "spread close;", "key 1;"};
+        for (String part : parts) {
+            int gap = part.indexOf(' ');
+            for (int i = 0; i < gap; i++) {
+                dueText(part.substring(0, i) + "x" + part.substring(i + 1), Sentences.fault(0, 1));
+                dueText(part.substring(0, i) + part.substring(i + 1), Sentences.fault(0, 1));
+            }
+            dueText(part.substring(0, gap) + "a" + part.substring(gap), Sentences.fault(0, 1));
+            dueText(part.substring(0, gap) + "z" + part.substring(gap), Sentences.fault(0, 1));
+            // nothing is told
+            dueText(part.substring(0, gap) + " ;", Sentences.fault(gap + 1, 1));
+            dueText(part.substring(0, gap) + ";", Sentences.fault(gap, 1));
+        }
+        for (String word : new String[] {"queue", "stack", "least"}) {
+            for (int i = 0; i < word.length(); i++) {
+                dueText("way " + word.substring(0, i) + "x" + word.substring(i + 1) + ";", Sentences.fault(4, 1));
+            }
+        }
+        for (String word : new String[] {"apart", "close", "free"}) {
+            for (int i = 0; i < word.length(); i++) {
+                dueText("spread " + word.substring(0, i) + "x" + word.substring(i + 1) + ";", Sentences.fault(7, 1));
+            }
+        }
+        dueText("key 1 as 2;", Sentences.fault(6, 1));
+        dueText("key 1 it 2;", Sentences.fault(6, 1));
+        dueText("key 1 i 2;", Sentences.fault(6, 1));
+        dueText("key 1 is ;", Sentences.fault(9, 1));
     }
 
     @Sentence(promise = 4, says = "NUMBERS (digits, likewise; 1 to 9)")
