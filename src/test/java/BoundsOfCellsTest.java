@@ -251,6 +251,8 @@ public final class BoundsOfCellsTest {
         Sentences.due("twins(), two cells of three", x.twins(), 0);
         x = Crafted.row(16, Crafted.free(16, 1, 2, 3), Crafted.single(16, 1), Crafted.single(16, 3));
         Sentences.due("twins(), one cell of three", x.twins(), 0);
+        x = Crafted.row(16, Crafted.single(16, 1), Crafted.free(16, 1, 2, 3), Crafted.single(16, 3), Crafted.single(16, 2));
+        Sentences.due("twins(), three of one cell", x.twins(), 0);
         // two pairs side by side
         x = Crafted.row(16, Crafted.single(16, 4), Crafted.single(16, 5), Crafted.single(16, 4, 1), Crafted.single(16, 5, 1));
         Sentences.due("twins(), two pairs", x.twins(), 2);

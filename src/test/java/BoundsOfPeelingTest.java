@@ -67,6 +67,27 @@ public final class BoundsOfPeelingTest {
         dueOrder(x, 1, 0, 2, 20, 0, 47);
     }
 
+    @Sentence(promise = 16, says = "at first all cells that are ALONE stand in line by numbers")
+    private static void peelWithAllCellsInLine() {
+        // 0, 94 and 95 have a KEY each, every three cells between them one: all 96 are ALONE
+        TripleSieve x = Crafted.row(32, Crafted.single(32, 95), Crafted.single(32, 94));
+        for (int c = 1; c < 94; c += 3) {
+            x.add(Crafted.free(32, c + 2, c, c + 1), 0);
+        }
+        x.add(Crafted.single(32, 0), 0);
+        Sentences.due("count(9)", x.count(9), 0);
+        for (int way : WAYS) {
+            x.set(5, way);
+            long[] due = new long[68];
+            for (int i = 0; i < 34; i++) {
+                int at = way == 1 ? 33 - i : i;
+                due[2 * i] = at == 0 ? 33 : at == 32 ? 1 : at == 33 ? 0 : at + 1;
+                due[2 * i + 1] = at == 0 ? 0 : at >= 32 ? 62 + at : 3 * at - (way == 1 ? 0 : 2);
+            }
+            dueOrder(x, due);
+        }
+    }
+
     @Sentence(promise = 16, says = "those of the other cells that its KEY TOUCHES that are ALONE now come behind the line, by numbers")
     private static void peelBehindTheLine() {
         // A goes by 0; 5 and 6 come into line, told in the other order
@@ -363,6 +384,27 @@ public final class BoundsOfPeelingTest {
                 Sentences.dueRow("mend of " + fours, mends(x), -2, -2, -2, -2, -2, -2);
             }
         }
+    }
+
+    @Sentence(promise = 20, says = "without which none is STUCK")
+    private static void mendOf48ByOne() {
+        // a chain of 48 that is closed at both ends: without any one of it all the others go
+        TripleSieve x = Crafted.row(32, Crafted.single(32, 0));
+        for (int k = 0; k < 46; k++) {
+            x.add(Crafted.free(32, k, k + 1, 95), 0);
+        }
+        x.add(Crafted.single(32, 46), 0);
+        for (int i = 0; i < 3; i++) {
+            x.set(5, i);
+            Sentences.due("core(-1)", x.core(-1), 48);
+            Sentences.due("rank()", x.rank(), 47);
+            Sentences.dueRow("mend", mends(x), 1, 0, -2, -2, -2, -2);
+        }
+        x.gone(x.key(0));
+        Sentences.due("core(-1) without the first", x.core(-1), 0);
+        x.undo();
+        x.gone(x.key(47));
+        Sentences.due("core(-1) without the last", x.core(-1), 0);
     }
 
     @Sentence(promise = 20, says = "The fewest KEYS, 3 at most")

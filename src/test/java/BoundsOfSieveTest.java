@@ -191,6 +191,17 @@ public final class BoundsOfSieveTest {
         }
     }
 
+    @Sentence(promise = 26, says = "no SIEVE")
+    private static void filledBehindText() {
+        TripleSieve x = one(0xABC, 9);
+        Sentences.due("filled(5, false)", x.filled(5, false), 0xABC);
+        x.text();
+        Sentences.due("filled(5, false) behind text()", x.filled(5, false), NONE);
+        Sentences.due("filled(5, true) behind text()", x.filled(5, true), NONE);
+        x.build(1);
+        Sentences.due("filled(5, false) built anew", x.filled(5, false), 0);
+    }
+
     @Sentence(promise = 26, says = "The PRINT (value: the VALUE) that a cell of THE SIEVE holds")
     private static void filledLeastAndMost() {
         TripleSieve x = Sentences.of("cells 32;prints 16;bits 8;seed 0;spread free;");
