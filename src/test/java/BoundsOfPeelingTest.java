@@ -388,23 +388,31 @@ public final class BoundsOfPeelingTest {
 
     @Sentence(promise = 20, says = "without which none is STUCK")
     private static void mendOf48ByOne() {
-        // a chain of 48 that is closed at both ends: without any one of it all the others go
-        TripleSieve x = Crafted.row(32, Crafted.single(32, 0));
+        // a chain of 48 that is closed at both ends, told from either: without any one of it all the others go
+        long[] closed = new long[48];
+        closed[0] = Crafted.single(32, 0);
         for (int k = 0; k < 46; k++) {
-            x.add(Crafted.free(32, k, k + 1, 95), 0);
+            closed[k + 1] = Crafted.free(32, k, k + 1, 95);
         }
-        x.add(Crafted.single(32, 46), 0);
-        for (int i = 0; i < 3; i++) {
-            x.set(5, i);
-            Sentences.due("core(-1)", x.core(-1), 48);
-            Sentences.due("rank()", x.rank(), 47);
-            Sentences.dueRow("mend", mends(x), 1, 0, -2, -2, -2, -2);
+        closed[47] = Crafted.single(32, 46);
+        for (boolean back : new boolean[] {false, true}) {
+            TripleSieve x = Crafted.row(32);
+            for (int k = 0; k < 48; k++) {
+                x.add(closed[back ? 47 - k : k], 0);
+            }
+            for (int way : WAYS) {
+                x.set(5, way);
+                Sentences.due("core(-1)", x.core(-1), 48);
+                Sentences.due("rank()", x.rank(), 47);
+                Sentences.dueRow("mend", mends(x), 1, 0, -2, -2, -2, -2);
+            }
+            for (int k : new int[] {0, 23, 47}) {
+                x.gone(x.key(k));
+                Sentences.due("core(-1) without one", x.core(-1), 0);
+                Sentences.due("mend(-1) without one", x.mend(-1), 0);
+                x.undo();
+            }
         }
-        x.gone(x.key(0));
-        Sentences.due("core(-1) without the first", x.core(-1), 0);
-        x.undo();
-        x.gone(x.key(47));
-        Sentences.due("core(-1) without the last", x.core(-1), 0);
     }
 
     @Sentence(promise = 20, says = "The fewest KEYS, 3 at most")
@@ -422,6 +430,52 @@ public final class BoundsOfPeelingTest {
             x.add(Crafted.single(32, k), 0);
         }
         Sentences.dueRow("mend with 36 more", mends(x), 3, 0, 4, 8, -2, -2);
+    }
+
+    /** Acts that change what mend answers, by their numbers. */
+    private static void act(TripleSieve x, int which) {
+        switch (which) {
+            case 0:
+                x.add(Crafted.single(16, 2, 2), 0);
+                break;
+            case 1:
+                x.gone(Crafted.single(16, 0));
+                break;
+            case 2:
+                x.set(4, 1);
+                break;
+            case 3:
+                x.set(1, 1);
+                break;
+            case 4:
+                x.turn(0, 3);
+                break;
+            case 5:
+                x.undo();
+                break;
+            default:
+                Sentences.tell(x, "cells 1;key 1;key 2;key 3;");
+                break;
+        }
+    }
+
+    @Sentence(promise = 20, says = "SETTINGS as they are now")
+    private static void mendBehindTwoActs() {
+        for (int one = 0; one < 7; one++) {
+            for (int other = 0; other < 7; other++) {
+                TripleSieve asked = pairs(2);
+                asked.add(Crafted.single(16, 2), 0);
+                TripleSieve fresh = pairs(2);
+                fresh.add(Crafted.single(16, 2), 0);
+                Sentences.due("mend(-1)", asked.mend(-1), 2);
+                act(asked, one);
+                act(asked, other);
+                act(fresh, one);
+                act(fresh, other);
+                Sentences.dueRow("mend behind acts " + one + ", " + other, mends(asked), mends(fresh));
+                Sentences.due("mend(-1) is 0 where none is STUCK", asked.mend(-1) == 0, fresh.core(-1) == 0);
+            }
+        }
     }
 
     // ---- promise 21
