@@ -943,8 +943,17 @@ public final class TripleSieve {
             }
         }
 
+        /** The KEY for which a cell is ALONE; NONE if it is not. */
+        private int loneKey(int cell) {
+            if (cell < 0 || cell >= cells || loads[cell] != 1) {
+                return NONE;
+            }
+            int k = mixes[cell];
+            return k < 0 || k >= keys ? NONE : k;
+        }
+
         private boolean isAlone(int cell) {
-            return loads[cell] == 1;
+            return loneKey(cell) != NONE;
         }
 
         private int countTouched() {
@@ -1015,8 +1024,9 @@ public final class TripleSieve {
             }
             for (int i = 0; i < MOST_ROW && head < tail; i++) {
                 int cell = leaveLine(stack);
-                if (row.isAlone(cell)) {
-                    int k = goOut(row, cell);
+                int k = row.loneKey(cell);
+                if (k != NONE) {
+                    goOut(row, k, cell);
                     for (int t = 3 * k; t < 3 * k + row.touches[k]; t++) {
                         lineUp(row, row.touched[t]);
                     }
@@ -1043,8 +1053,9 @@ public final class TripleSieve {
         private void runLeast(Row row) {
             int cell = 0;
             for (int i = 0; i < MOST_ROW * (MOST_KEYS + 1) && cell < row.cells; i++) {
-                if (row.isAlone(cell)) {
-                    int k = goOut(row, cell);
+                int k = row.loneKey(cell);
+                if (k != NONE) {
+                    goOut(row, k, cell);
                     // a cell that is ALONE only now may stand ahead, but not ahead of the KEY's first
                     cell = row.touched[3 * k];
                 } else {
@@ -1053,13 +1064,13 @@ public final class TripleSieve {
             }
         }
 
-        private int goOut(Row row, int cell) {
-            int k = row.mixes[cell];
+        private void goOut(Row row, int k, int cell) {
             row.takeOff(k);
-            keyOf[peeled] = k;
-            cellOf[peeled] = cell;
-            peeled++;
-            return k;
+            if (peeled < MOST_KEYS) {
+                keyOf[peeled] = k;
+                cellOf[peeled] = cell;
+                peeled++;
+            }
         }
 
         /** Each KEY that was peeled gets its goal as the xor of the cells that it TOUCHES. */
@@ -1107,8 +1118,9 @@ public final class TripleSieve {
         private boolean mark(Row row, int round) {
             boolean some = false;
             for (int c = 0; c < row.cells; c++) {
-                if (row.isAlone(c)) {
-                    levels[row.mixes[c]] = round;
+                int k = row.loneKey(c);
+                if (k != NONE) {
+                    levels[k] = round;
                     some = true;
                 }
             }
@@ -1215,17 +1227,20 @@ public final class TripleSieve {
             take(row, k);
             for (int i = 0; i < MOST_ROW && lineSize > 0; i++) {
                 lineSize--;
-                int cell = line[lineSize];
-                if (row.isAlone(cell)) {
-                    take(row, row.mixes[cell]);
+                int next = row.loneKey(line[lineSize]);
+                if (next != NONE) {
+                    take(row, next);
                 }
             }
         }
 
         private void take(Row row, int k) {
-            row.takeOff(k);
+            if (trailSize >= MOST_KEYS) {
+                return;
+            }
             trail[trailSize] = k;
             trailSize++;
+            row.takeOff(k);
             for (int t = 3 * k; t < 3 * k + row.touches[k]; t++) {
                 if (row.isAlone(row.touched[t]) && lineSize < MOST_ROW) {
                     line[lineSize] = row.touched[t];
